@@ -1253,7 +1253,7 @@ public final class StoutShelf {
 
         private void meet(int mine, int theirs) {
             int state = mine | theirs << MOST_BOOKS;
-            int at = state * SCATTER >>> 32 - TABLE_BITS;
+            int at = (state * SCATTER) >>> (32 - TABLE_BITS);
             for (int probe = 0; probe < TABLE; probe++) {
                 int seen = table[at];
                 if (seen == state) {
@@ -1263,7 +1263,7 @@ public final class StoutShelf {
                     meetNew(state, at);
                     return;
                 }
-                at = at + 1 & TABLE - 1;
+                at = (at + 1) & (TABLE - 1);
             }
         }
 
