@@ -441,8 +441,8 @@ public final class StoutShelf {
         static final int END = 0;
         static final int WORD = 1;
         static final int NUMBER = 2;
+        /* Also a byte that is no TOKEN: no sign that is asked for, it can stand nowhere. */
         static final int SIGN = 3;
-        static final int STRAY = 4;
         static final int MOST_DIGITS = 4;
 
         final byte[] bytes = new byte[MOST_BYTES];
@@ -494,7 +494,7 @@ public final class StoutShelf {
                     to++;
                 }
             } else {
-                kind = isSignByte(c) ? SIGN : STRAY;
+                kind = SIGN;
             }
         }
 
@@ -528,10 +528,6 @@ public final class StoutShelf {
 
         private static boolean isDigit(int c) {
             return c >= '0' && c <= '9';
-        }
-
-        private static boolean isSignByte(int c) {
-            return c == ';' || c == '<' || c == '=' || c >= '(' && c <= '/' && c != ',' && c != '.';
         }
     }
 
@@ -584,24 +580,43 @@ public final class StoutShelf {
                     case BLANKS: push(blanks); break;
                     case PLATES: push(plates); break;
                     case TORN: push(torn); break;
-                    default: work(step);
+                    case NOT: turn(); break;
+                    case IF: choose(); break;
+                    default:
+                        if (step >= 0) {
+                            push(step);
+                        } else {
+                            work(step);
+                        }
                 }
             }
-            return pop();
+            return top > 0 ? stack[top - 1] : 0;
+        }
+
+        private void push(int value) {
+            if (top < STACK) {
+                stack[top] = value;
+                top++;
+            }
+        }
+
+        private void turn() {
+            if (top >= 1) {
+                stack[top - 1] = bit(stack[top - 1] == 0);
+            }
+        }
+
+        private void choose() {
+            if (top >= 3) {
+                top -= 2;
+                stack[top - 1] = stack[top - 1] != 0 ? stack[top] : stack[top + 1];
+            }
         }
 
         private void work(int step) {
-            if (step >= 0) {
-                push(step);
-            } else if (step == NOT) {
-                push(bit(pop() == 0));
-            } else if (step == IF) {
-                int otherwise = pop();
-                int then = pop();
-                push(pop() != 0 ? then : otherwise);
-            } else {
-                int right = pop();
-                push(join(step, pop(), right));
+            if (top >= 2) {
+                top--;
+                stack[top - 1] = join(step, stack[top - 1], stack[top]);
             }
         }
 
@@ -620,21 +635,6 @@ public final class StoutShelf {
 
         private static int bit(boolean holds) {
             return holds ? 1 : 0;
-        }
-
-        private void push(int value) {
-            if (top < STACK) {
-                stack[top] = value;
-                top++;
-            }
-        }
-
-        private int pop() {
-            if (top <= 0) {
-                return 0;
-            }
-            top--;
-            return stack[top];
         }
     }
 
@@ -1145,11 +1145,10 @@ public final class StoutShelf {
         private void tryReader(int place, int gone, int reader) {
             int has = sets[reader];
             int shelf = sets[SHELF];
-            for (int left = 0; left < told.books; left++) {
+            for (int left = 0; left < told.books && tries <= MOST_TRIES; left++) {
                 int takeable = holds(has, left) ? told.fewer[left] & shelf : 0;
-                for (int taken = 0; taken < told.books; taken++) {
-                    if (holds(takeable, taken) && tries <= MOST_TRIES) {
-                        tries++;
+                for (int taken = 0; taken < told.books && takeable != 0; taken++) {
+                    if (holds(takeable, taken)) {
                         tryExchange(place, gone, reader, left, taken);
                     }
                 }
@@ -1157,6 +1156,7 @@ public final class StoutShelf {
         }
 
         private void tryExchange(int place, int gone, int reader, int left, int taken) {
+            tries++;
             if (tries > MOST_TRIES) {
                 return;
             }

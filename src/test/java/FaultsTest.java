@@ -202,6 +202,7 @@ public final class FaultsTest {
         fault("law 1 and foo;", 3, 10);
         fault("law iff;", 3, 4);
         fault("law leave;", 3, 4);
+        fault("law z;", 3, 4);
         fault("law leavess;", 3, 4);
     }
 

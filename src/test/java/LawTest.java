@@ -3,6 +3,7 @@ public final class LawTest {
     public static void main(String[] args) {
         parts();
         values();
+        deep();
         Checks.end();
     }
 
@@ -73,5 +74,19 @@ public final class LawTest {
         // 2 to the 31 is the least int; by -1 it stays itself.
         pages("4096*4096*128/(0-1)", Integer.MIN_VALUE);
         pages("4096*4096*256", 0);
+    }
+
+    /* As many values as can be wait for others, and as many TOKENS as fit in a TEXT. */
+    private static void deep() {
+        for (int last = 0; last <= 1; last++) {
+            String law = "0 or 1 and 0<0+1*" + last;
+            for (int i = 0; i < 5; i++) {
+                law = "0 or 1 and 0<0+1*if 0 then 0 else " + law + " end";
+            }
+            pages(law, last);
+        }
+        String text = "book 1;law  1" + "+1".repeat(343) + ";";
+        Checks.due("the text's length", text.length(), 700);
+        Checks.due("the longest law", Checks.told(text).book(0, 4), 344);
     }
 }
