@@ -669,7 +669,6 @@ public final class StoutShelf {
         void take(Told other) {
             books = other.books;
             readers = other.readers;
-            lawTold = other.lawTold;
             law.take(other.law);
             System.arraycopy(other.parts, 0, parts, 0, PARTS * MOST_BOOKS);
             System.arraycopy(other.wants, 0, wants, 0, MOST_READERS);

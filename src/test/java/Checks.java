@@ -1,12 +1,20 @@
+import java.io.IOException;
+import java.nio.file.Files;
+import java.nio.file.Path;
 import java.util.NoSuchElementException;
 
 /** What the tests share: feeding a text, comparing an answer with what is due, and the closing. */
 final class Checks {
     static final String NO_SUCH = "NoSuchElementException";
     static final String ILLEGAL = "IllegalArgumentException";
+    static final String NOTHING = "nothing";
+
+    private static final Path DOCUMENT = Path.of("../shared/DOC.md");
 
     private static int wrong = 0;
     private static int asked = 0;
+    private static String document = null;
+    private static String heading = "";
 
     interface Call {
         long answer();
@@ -18,13 +26,46 @@ final class Checks {
     static void due(String call, long got, long want) {
         asked++;
         if (got != want) {
-            wrong++;
-            System.out.println(call + " answered " + got + ", due is " + want);
+            complain(call + " answered " + got + ", due is " + want);
         }
     }
 
+    private static void complain(String what) {
+        wrong++;
+        System.out.println(heading + what);
+    }
+
+    /** The test of one sentence, which is named by the document's own words. */
+    static void sentence(String words, Runnable test) {
+        heading = "'" + words + "': ";
+        if (!document().contains(words)) {
+            complain("the document has no such words");
+        }
+        int before = asked;
+        try {
+            test.run();
+        } catch (RuntimeException e) {
+            complain("ended by " + e);
+        }
+        if (asked == before) {
+            complain("nothing was asked");
+        }
+        heading = "";
+    }
+
+    private static String document() {
+        if (document == null) {
+            try {
+                document = Files.readString(DOCUMENT).replaceAll("\\s+", " ");
+            } catch (IOException e) {
+                throw new IllegalStateException("the document can't be read", e);
+            }
+        }
+        return document;
+    }
+
     static void dueThrow(String call, String want, Call run) {
-        String got = "nothing";
+        String got = NOTHING;
         try {
             run.answer();
         } catch (NoSuchElementException e) {
@@ -36,8 +77,7 @@ final class Checks {
         }
         asked++;
         if (!got.equals(want)) {
-            wrong++;
-            System.out.println(call + " threw " + got + ", due is " + want);
+            complain(call + " threw " + got + ", due is " + want);
         }
     }
 
@@ -61,6 +101,20 @@ final class Checks {
     static int tell(StoutShelf x, String text) {
         feed(x, text);
         return x.library(text.length());
+    }
+
+    /** The FAULT of a TEXT on a new object, its place, and that nothing of the TEXT stands then. */
+    static void faultDue(String text, int fault, int place) {
+        StoutShelf x = new StoutShelf();
+        due("fault of " + text, tell(x, text), fault);
+        due("place in " + text, x.fault(), place);
+        due("status of " + text, x.count(6), fault == 0 ? 0 : 1);
+        due("books behind " + text, fault == 0 ? 0 : x.count(0), 0);
+        due("readers behind " + text, fault == 0 ? 0 : x.count(1), 0);
+    }
+
+    static void goodDue(String text) {
+        faultDue(text, 0, -1);
     }
 
     static StoutShelf told(String text) {

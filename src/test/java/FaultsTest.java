@@ -17,15 +17,11 @@ public final class FaultsTest {
     }
 
     private static void fault(String text, int fault, int place) {
-        StoutShelf x = new StoutShelf();
-        Checks.due("fault of " + text, Checks.tell(x, text), fault);
-        Checks.due("place in " + text, x.fault(), place);
-        Checks.due("status of " + text, x.count(6), fault == 0 ? 0 : 1);
-        Checks.due("books behind " + text, fault == 0 ? 0 : x.count(0), 0);
+        Checks.faultDue(text, fault, place);
     }
 
     private static void good(String text) {
-        fault(text, 0, -1);
+        Checks.goodDue(text);
     }
 
     private static void tokens() {
