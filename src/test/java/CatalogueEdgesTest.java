@@ -192,6 +192,17 @@ public final class CatalogueEdgesTest {
             z.event(0, 1, 2);
             Checks.due("the last alone", z.knot(), 128);
         });
+        Checks.sentence("KNOT, as bits; NONE: none.", () -> {
+            StoutShelf x = Checks.told(TEXT);
+            Checks.due("of no events", x.knot(), -1);
+            x.event(0, 0, 2);
+            Checks.due("of one that can be made", x.knot(), -1);
+            x.event(1, 0, 2);
+            Checks.due("of one that can't", x.knot(), 2);
+            x.forget();
+            Checks.due("taken back", x.knot(), -1);
+            Checks.due("nothing is made", x.count(3), 0);
+        });
         Checks.sentence("of as small the least as bits; none, if all have", () -> {
             StoutShelf x = Checks.told(TEXT);
             Checks.due("of none", x.knot(), -1);
@@ -238,6 +249,18 @@ public final class CatalogueEdgesTest {
             handsDue(x, 2, -1, 0, 1);
             handsDue(x, 3, -1);
             x.exchange(0, 0, 2);
+            handsDue(x, 0, 0, -1);
+        });
+        Checks.sentence("each change once", () -> {
+            StoutShelf x = Checks.told(TEXT);
+            x.exchange(0, 0, 3);
+            x.exchange(1, 1, 4);
+            handsDue(x, 0, 0, -1);
+            handsDue(x, 2, -1);
+            x.swap(0, 3, 1, 4);
+            x.swap(0, 4, 1, 3);
+            handsDue(x, 3, -1, 0, 1, 0);
+            handsDue(x, 4, -1, 1, 0, 1);
             handsDue(x, 0, 0, -1);
         });
         Checks.sentence("HANDS: how many (i NONE); the i-th (NONE: THE SHELF). NoSuchElementException: also there is none.", () -> {

@@ -4,6 +4,7 @@ public final class MoveEdgesTest {
             + "book 20 of 0;book 31;";
 
     public static void main(String[] args) {
+        likewise();
         noSuch();
         hasNot();
         notThere();
@@ -35,6 +36,32 @@ public final class MoveEdgesTest {
     private static void stateDue(StoutShelf x, int want, int moves, int refused) {
         Checks.due("status 1", x.count(7), want == 0 ? refused : refused + 1);
         Checks.due("moves", x.count(3), want == 0 ? moves + 1 : moves);
+    }
+
+    private static void likewise() {
+        Checks.sentence("AN EXCHANGE (left, then taken): 0, or the TROUBLE (STATUS 1).", () -> {
+            StoutShelf x = Checks.told(TEXT);
+            exchangeDue(x, 0, 2, 0, 2);
+            Checks.due("a refused one changes nothing", x.reader(0, 1), 17);
+            exchangeDue(x, 0, 0, 2, 0);
+            Checks.due("left", x.book(0, 5), -1);
+            Checks.due("taken", x.book(2, 5), 0);
+            Checks.due("the others stay", x.book(4, 5), 0);
+            Checks.due("the shelf", x.count(2), 111);
+        });
+        Checks.sentence("A SWAP: likewise.", () -> {
+            StoutShelf x = Checks.told(TEXT);
+            swapDue(x, 0, 1, 1, 0, 2);
+            Checks.due("a refused one changes nothing", x.reader(0, 1), 17);
+            Checks.due("a refused one changes nothing", x.reader(1, 1), 2);
+            swapDue(x, 0, 0, 1, 1, 0);
+            Checks.due("given", x.book(0, 5), 1);
+            Checks.due("got", x.book(1, 5), 0);
+            Checks.due("the shelf stays", x.count(2), 101);
+            swapDue(x, 1, 0, 0, 1, 0);
+            Checks.due("back", x.reader(0, 1), 17);
+            Checks.due("both are written down", x.count(3), 2);
+        });
     }
 
     private static void noSuch() {

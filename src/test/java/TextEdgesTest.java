@@ -150,6 +150,13 @@ public final class TextEdgesTest {
                 }
             }
         });
+        Checks.sentence("'wants' READER BOOK", () -> {
+            good("reader;book 5;wants 0 0;");
+            good("reader;book 5;wants 0000 0000;");
+            fault("reader;book 5;wants;", 1, 19);
+            fault("reader;book 5;wants 0;", 1, 21);
+            fault("reader;book 5;wants 0 0 0;", 1, 24);
+        });
         Checks.sentence("all in capitals but EXPR being NUMBERS", () -> {
             String[] places = {"book ", "book 5 blanks ", "book 5 plates ", "book 5 torn ", "book 5 of ",
                 "wants ", "wants 0 "};
